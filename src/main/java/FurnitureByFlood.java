@@ -344,14 +344,12 @@ public final class FurnitureByFlood {
         if (!isPiece(piece)) {
             return UNKNOWN;
         }
-        int house = now.at[piece];
         trial.begin(plan, now, NONE);
-        if (trial.strongest[house] == NONE) {
+        if (trial.strongest[now.at[piece]] == NONE) {
             return NONE;
         }
         for (int level = 0; level <= TOP_LEVEL; level++) {
-            boolean isLoose = now.tied[piece] == 0 || now.tied[piece] < plan.waterIn(house, level);
-            if (isLoose && plan.floatsIn(house, plan.floatDepth[piece], level)) {
+            if (trial.isLoose(plan, piece, level)) {
                 return level;
             }
         }
@@ -515,7 +513,7 @@ public final class FurnitureByFlood {
         }
     }
 
-    /** The highest power of a prime (2 or 5) by which both numbers can be divided; below is at most 10 to the 9th. */
+    /** The highest power of a prime (2 or 5) that divides both; below is 10 to the 9th at most, which ends it. */
     private static long commonPower(long above, long below, int prime) {
         long power = 1;
         for (int i = 0; i < MOST_HOURS; i++) {
@@ -639,10 +637,6 @@ public final class FurnitureByFlood {
 
         int waterIn(int house, int level) {
             return Math.max(0, level - height[house]);
-        }
-
-        boolean floatsIn(int house, int depthToFloat, int level) {
-            return waterIn(house, level) >= depthToFloat;
         }
     }
 
@@ -893,7 +887,6 @@ public final class FurnitureByFlood {
         final int[] through = new int[MOST_HOUSES];
         int went;
         int jammed;
-        boolean isAllAsBefore;
 
         void begin(Plan plan, Stand stand, int alsoShut) {
             for (int piece = 0; piece < plan.pieces; piece++) {
@@ -919,36 +912,37 @@ public final class FurnitureByFlood {
         }
 
         void passHours(Plan plan, int level, int n) {
-            isAllAsBefore = false;
-            for (int hour = 0; hour < n && !isAllAsBefore; hour++) {
+            for (int hour = 0; hour < n; hour++) {
                 passHour(plan, level);
+                if (went == 0) {
+                    // what could break is broken: at this level none goes any more
+                    return;
+                }
             }
         }
 
         void passHour(Plan plan, int level) {
             went = 0;
             jammed = 0;
-            isAllAsBefore = true;
             for (int house = 0; house < plan.houses; house++) {
                 through[house] = 0;
             }
             // no piece's place or tie counts for another one, so each may break loose and go in turn
             for (int piece = 0; piece < plan.pieces; piece++) {
                 int here = at[piece];
-                if (plan.floatsIn(here, plan.floatDepth[piece], level)) {
-                    breakTie(piece, plan.waterIn(here, level));
-                    if (tied[piece] == 0 && strongest[here] != NONE) {
+                if (isLoose(plan, piece, level)) {
+                    tied[piece] = 0;
+                    if (strongest[here] != NONE) {
                         letGo(piece, here, plan.to[strongest[here]], plan);
                     }
                 }
             }
         }
 
-        private void breakTie(int piece, int depth) {
-            if (tied[piece] != 0 && tied[piece] < depth) {
-                tied[piece] = 0;
-                isAllAsBefore = false;
-            }
+        /** Whether a piece floats where it is and no tie holds it; none floats where no water is. */
+        boolean isLoose(Plan plan, int piece, int level) {
+            int depth = plan.waterIn(at[piece], level);
+            return depth >= plan.floatDepth[piece] && depth > tied[piece];
         }
 
         private void letGo(int piece, int here, int there, Plan plan) {
@@ -961,7 +955,6 @@ public final class FurnitureByFlood {
             through[there] += width;
             at[piece] = there;
             went |= 1 << piece;
-            isAllAsBefore = false;
         }
     }
 
@@ -1007,7 +1000,7 @@ public final class FurnitureByFlood {
             }
             for (int stream = 0; stream < plan.streams; stream++) {
                 int house = plan.from[stream];
-                if (!isShut[stream] && plan.floatsIn(house, depthToFloat, level)) {
+                if (!isShut[stream] && plan.waterIn(house, level) >= depthToFloat) {
                     move(house, plan.to[stream], plan.tenths[stream]);
                 }
             }

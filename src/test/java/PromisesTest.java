@@ -45,6 +45,8 @@ public final class PromisesTest {
         ends();
         keep();
         again();
+        fullTown();
+        fewerThanBefore();
         Check.end();
     }
 
@@ -238,6 +240,9 @@ public final class PromisesTest {
         fault("H11H11S015S0", 11);
         fault("H11H11S015S1", 12);
         fault("H11H11S015S105", NONE);
+        fault("H11H11S105S", 11);
+        fault("H11H11S105S1", 11);
+        fault("H11H11S105S0", 12);
         fault("H11H11S015S105S", 14);
         fault("H11H11S015S105H11S", 18);
         fault("H11H11H11S011S01", 15);
@@ -1370,5 +1375,94 @@ public final class PromisesTest {
         due("30 undo()", x.undo(), 1);
         due("30 again(0) once more", x.again(0), 1);
         due("30 as it was kept", x.piece(0, 3), 3);
+        // owners that came behind an undo are not those that were kept
+        FurnitureByFlood y = Told.town("H09H09H09P0110");
+        y.carry(0, 1);
+        y.spring();
+        y.keep(1);
+        y.undo();
+        y.carry(0, 2);
+        y.spring();
+        due("30 another owner", y.owner(0, 1), 2);
+        due("30 again(1)", y.again(1), 1);
+        due("30 the owner that was kept", y.owner(0, 1), 1);
+        due("30 who is the owner", y.piece(0, 5), 1);
+    }
+
+    // ---- of many promises
+
+    /** All that can be told is told: the last HOUSE, STREAM, PIECE count as the others do. */
+    private static void fullTown() {
+        FurnitureByFlood x = Told.town("H09H09H09H09H09H19" + "S051S041S032S023S101S124S231S342S453S509"
+            + "P5110P5220P0110P0350P5110P5415");
+        due("5 houses", x.about(0), 6);
+        due("5 streams", x.about(1), 10);
+        due("5 pieces", x.about(2), 6);
+        due("7 the last house", x.house(5, 0) * 10 + x.house(5, 1), 19);
+        due("7 who is in it", x.house(5, 2), 1 + 2 + 16 + 32);
+        due("7 how wide they are", x.house(5, 3), 8);
+        due("8 the last stream", x.stream(9, 0) * 100 + x.stream(9, 1) * 10 + x.stream(9, 2), 509);
+        due("8 stream(10, 0)", x.stream(10, 0), UNKNOWN);
+        due("9 the last piece", x.piece(5, 0) * 1000 + x.piece(5, 1) * 100 + x.piece(5, 2) * 10 + x.piece(5, 3), 5415);
+        due("9 piece(6, 0)", x.piece(6, 0), UNKNOWN);
+        due("20 ties(63, 5, 1, false)", x.ties(63, 5, 1, false), 3 * 4 + 2 * 5);
+        due("20 ties(63, 5, 1, true)", x.ties(63, 5, 1, true), 31);
+        due("20 ties(64, 5, 1, true)", x.ties(64, 5, 1, true), BAD);
+        due("21 dowry(5, 9, 1, 0): there it jams", x.dowry(5, 9, 1, 0), 0);
+        due("21 dowry(5, 9, 1, 5)", x.dowry(5, 9, 1, 5), 4);
+        due("22 toShut(5, 2, 1)", x.toShut(5, 2, 1), 9);
+        due("24 goesFrom(5)", x.goesFrom(5), 7);
+        due("27 rows(1, 0)", x.rows(1, 0), 5);
+        due("28 ends(1, 4)", x.ends(1, 4), 16 + 32);
+        due("13 shut(9, true)", x.shut(9, true), 1);
+        x.keep(1);
+        due("15 hour(2)", x.hour(2), 4);
+        x.shut(9, false);
+        due("15 hour(3)", x.hour(3), 1 + 2 + 4 + 16);
+        due("15 hour(7): the last one jams", x.hour(7), 31);
+        due("15 hour(7)", x.hour(7), 63);
+        due("15 the last piece", x.piece(5, 0) * 10 + x.piece(5, 3), 0);
+        due("17 spring()", x.spring(), 6);
+        due("10 owner(5, 1)", x.owner(5, 1), 0);
+        due("6 about(5)", x.about(5), 6);
+        due("6 about(6)", x.about(6), 6);
+        due("30 again(1)", x.again(1), 0);
+        due("30 the last stream", x.stream(9, 3), 1);
+        due("30 the last piece", x.piece(5, 0) * 10 + x.piece(5, 3), 55);
+        due("30 its owner", x.piece(5, 5), 5);
+        due("30 its owners", x.owner(5, 1), NONE);
+        due("6 about(5)", x.about(5), 0);
+        due("6 about(6)", x.about(6), 0);
+    }
+
+    /** A TOWN of fewer: nothing is left of the greater one ahead of it. */
+    private static void fewerThanBefore() {
+        FurnitureByFlood x = Told.town("H09H09H09S015S025S205P0110P1110P2510");
+        x.carry(2, 0);
+        x.spring();
+        x.shut(2, true);
+        x.shut(0, true);
+        x.carry(2, 1);
+        Told.rewrite(x, "H09H09S103P0110P1110");
+        due("5 town()", x.town(), 2);
+        due("5 nothing is shut", x.stream(0, 3), 0);
+        due("6 about(5)", x.about(5), 0);
+        due("6 about(6)", x.about(6), 0);
+        due("7 house(1, 2)", x.house(1, 2), 2);
+        due("7 house(1, 3)", x.house(1, 3), 1);
+        due("7 house(2, 0)", x.house(2, 0), UNKNOWN);
+        due("15 hour(1)", x.hour(1), 2);
+        due("15 hour(1) once more", x.hour(1), 0);
+        due("16 jams(1)", x.jams(1), 0);
+        due("17 spring()", x.spring(), 1);
+        due("20 ties(3, 1, 1, true)", x.ties(3, 1, 1, true), 0);
+        due("20 ties(4, 1, 1, true)", x.ties(4, 1, 1, true), BAD);
+        due("21 dowry(0, 1, 1, 1)", x.dowry(0, 1, 1, 1), NONE);
+        due("22 toShut(1, 1, 1)", x.toShut(1, 1, 1), NONE);
+        due("23 drawn(0, 1, 1, 0, true)", x.drawn(0, 1, 1, 0, true), 1);
+        due("24 goesFrom(0)", x.goesFrom(0), NONE);
+        due("27 rows(2, 0)", x.rows(2, 0), 1);
+        due("27 rows(2, 1)", x.rows(2, 1), 3);
+        due("28 ends(9, 1)", x.ends(9, 1), 3);
     }
 }
