@@ -2,14 +2,16 @@ import java.util.Random;
 
 /** Long rows of calls, each answered by the class and by the model; the seeds are fixed, so all runs are alike. */
 public final class ModelTest {
-    private static final int TOWNS = 500;
-    private static final int CALLS = 250;
+    private static final int TOWNS = 1500;
     private static final int FAULTS = 3000;
+    /** An object is used for 512 calls at most; so many are left free for a new town and a last look at all. */
+    private static final int CALLS = 512 - 110 - 100;
 
     private final Random random;
     private final String seed;
     private FurnitureByFlood x = new FurnitureByFlood();
     private Model y = new Model();
+    private int calls = 0;
 
     private ModelTest(int seed) {
         this.random = new Random(seed);
@@ -30,7 +32,7 @@ public final class ModelTest {
         }
         tell(anyTown());
         due("town()", x.town(), y.town());
-        for (int call = 0; call < CALLS; call++) {
+        while (calls < CALLS) {
             if (random.nextInt(150) == 0) {
                 tell(anyTown());
                 due("town()", x.town(), y.town());
@@ -159,6 +161,7 @@ public final class ModelTest {
     }
 
     private void due(String call, long got, long want) {
+        calls++;
         Check.due(seed + call, got, want);
     }
 
@@ -210,7 +213,7 @@ public final class ModelTest {
                 x.after(piece, level, n), y.after(piece, level, n));
         }
         if (which == 13 || which == 15 || which == 16) {
-            lookAtAll();
+            lookAtSome();
         }
     }
 
@@ -251,12 +254,22 @@ public final class ModelTest {
             case 28 -> due("keep(" + slot + ")", x.keep(slot), y.keep(slot));
             default -> {
                 due("again(" + slot + ")", x.again(slot), y.again(slot));
-                lookAtAll();
+                lookAtSome();
             }
         }
     }
 
-    /** All that can be looked at, so that a slip is told where it is made. */
+    /** Some of what a flood or a spring may have changed, so that a slip is told near where it is made. */
+    private void lookAtSome() {
+        int piece = anyPiece();
+        int what = 3 + random.nextInt(4);
+        due("about(" + what + ")", x.about(what), y.about(what));
+        for (int of : new int[] {0, 3, 5}) {
+            due("piece(" + piece + ", " + of + ")", x.piece(piece, of), y.piece(piece, of));
+        }
+    }
+
+    /** All that can be looked at. */
     private void lookAtAll() {
         for (int what = 0; what < 9; what++) {
             due("about(" + what + ")", x.about(what), y.about(what));

@@ -17,9 +17,15 @@ final class Told {
         return x;
     }
 
+    /** By eights, for an object is used for 512 calls at most. */
     static void write(FurnitureByFlood x, String text) {
-        for (int i = 0; i < text.length(); i++) {
-            x.write(1, text.charAt(i));
+        for (int place = 0; place < text.length(); place += 8) {
+            int n = Math.min(8, text.length() - place);
+            long v = 0;
+            for (int i = 0; i < n; i++) {
+                v = v << 8 | text.charAt(place + i);
+            }
+            x.write(n, v);
         }
     }
 
