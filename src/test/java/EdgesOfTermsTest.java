@@ -733,7 +733,12 @@ public final class EdgesOfTermsTest {
         says("of like costs the least set");
         FurnitureByFlood x = Told.town("H09H25H09S019S109S219P2530P0310");
         bothTies(x, 2, 3, 2, 3, 1);
+        // pieces 0 and 1 for two each, or piece 2 for four: the set of the lesser bits, though it is of more
+        FurnitureByFlood z = Told.town("H19H46H39S019S109S219P2320P2320P0410");
+        bothTies(z, 4, 5, 2, 4, 3);
         says("the least cost");
+        FurnitureByFlood w = Told.town("H29H46H39S019S109S219P2320P2320P0410");
+        bothTies(w, 4, 5, 2, 3, 4);
         FurnitureByFlood y = Told.town("H19H25H09S019S109S219P2530P0310");
         bothTies(y, 2, 3, 2, 2, 2);
     }
