@@ -1,4 +1,5 @@
 import java.io.IOException;
+import java.lang.reflect.Array;
 import java.lang.reflect.Constructor;
 import java.lang.reflect.Field;
 import java.lang.reflect.Method;
@@ -7,8 +8,11 @@ import java.nio.file.Files;
 import java.nio.file.Path;
 import java.util.Arrays;
 import java.util.List;
+import java.util.Map;
 import java.util.Set;
+import java.util.TreeMap;
 import java.util.TreeSet;
+import java.util.regex.Matcher;
 import java.util.regex.Pattern;
 import java.util.stream.Collectors;
 
@@ -22,12 +26,19 @@ public final class FaceTest {
         "int after(int,int,int)", "int ties(int,int,int,boolean)", "int dowry(int,int,int,int)",
         "int toShut(int,int,int)", "long drawn(int,int,int,int,boolean)", "int goesFrom(int)", "int mark(int,int)",
         "int unmark()", "long rows(int,int)", "int ends(int,int)", "int keep(int)", "int again(int)");
+    private static final Pattern METHOD = Pattern.compile(
+        "( {4}| {8})(?:(?:public|private|static) )*(?:int|long|boolean|void) (\\w+)\\(.*\\) \\{");
+    private static final Pattern CALLED = Pattern.compile("\\b(\\w+)\\(");
     private static final List<String> CONSTANTS = List.of("UNKNOWN", "BAD", "LATE", "FULL", "NONE");
 
     public static void main(String[] args) throws IOException {
         face();
         classesInside();
-        source(Files.readString(Path.of(SOURCE)));
+        String text = Files.readString(Path.of(SOURCE));
+        source(text);
+        methods(text);
+        noneMakesObjects(text);
+        oneObjectIsSmall();
         Check.end();
     }
 
@@ -73,7 +84,11 @@ public final class FaceTest {
             .map(m -> m.substring(m.indexOf(' ') + 1, m.indexOf('('))).collect(Collectors.toSet());
         Class<?>[] inside = FurnitureByFlood.class.getDeclaredClasses();
         Check.holds("it has some twelve classes at most", inside.length <= 12);
+        long own = Arrays.stream(FurnitureByFlood.class.getDeclaredFields())
+            .filter(f -> !Modifier.isStatic(f.getModifiers())).count();
+        Check.holds("it has some twenty fields at most", own <= 20);
         for (Method m : FurnitureByFlood.class.getDeclaredMethods()) {
+            Check.holds(m + " has seven parameters at most", m.getParameterCount() <= 7);
             Check.holds(m + " bears no name of a public one",
                 !Modifier.isPrivate(m.getModifiers()) || !names.contains(m.getName()));
         }
@@ -103,6 +118,94 @@ public final class FaceTest {
         Check.holds("no *Exact", found(bare, "\\w+Exact\\b").isEmpty());
         Check.holds("no sign beyond 127", text.chars().allMatch(sign -> sign < 128));
         Check.holds("no line is longer than 120", text.lines().allMatch(line -> line.length() <= 120));
+    }
+
+    /** By their names alone: those of one name count as one method, so that no chain is taken for a shorter one. */
+    private static void methods(String text) {
+        Map<String, Set<String>> called = new TreeMap<>();
+        String[] lines = text.split("\n");
+        for (int i = 0; i < lines.length; i++) {
+            Matcher head = METHOD.matcher(lines[i]);
+            if (head.matches()) {
+                int end = i;
+                while (!lines[end].equals(head.group(1) + "}")) {
+                    end++;
+                }
+                Check.holds(head.group(2) + " has some sixty lines at most", end - i <= 60);
+                String body = String.join("\n", Arrays.asList(lines).subList(i + 1, end));
+                Set<String> names = called.computeIfAbsent(head.group(2), name -> new TreeSet<>());
+                CALLED.matcher(body).results().forEach(r -> names.add(r.group(1)));
+            }
+        }
+        Check.holds("all methods of the face are found", called.size() >= FACE.size());
+        for (String name : called.keySet()) {
+            int deep = depth(name, called, 0);
+            Check.holds(name + " calls itself, or goes deeper than eight: " + deep, deep <= 8);
+        }
+    }
+
+    /** How many calls stand open at once at most; beyond twenty it is taken for one that calls itself. */
+    private static int depth(String name, Map<String, Set<String>> called, int above) {
+        int deepest = 0;
+        for (String other : called.get(name)) {
+            if (called.containsKey(other) && above < 20) {
+                deepest = Math.max(deepest, depth(other, called, above + 1));
+            }
+        }
+        return 1 + deepest;
+    }
+
+    /** All rows are made with the object: 'new' stands in what fields begin with and in constructors alone. */
+    private static void noneMakesObjects(String text) {
+        String method = "";
+        for (String line : text.split("\n")) {
+            Matcher head = METHOD.matcher(line);
+            if (head.matches()) {
+                method = head.group(2);
+            } else if (line.matches("( {4}| {8})\\}")) {
+                method = "";
+            }
+            boolean isComment = line.strip().startsWith("/") || line.strip().startsWith("*");
+            boolean makes = !isComment && line.matches(".*\\bnew\\b.*");
+            Check.holds(method + " makes an object: " + line, !makes || method.isEmpty());
+        }
+    }
+
+    /** Also 512 objects of one run must have room: 600,000 objects and arrays, 7.3 million fields and elements. */
+    private static void oneObjectIsSmall() {
+        long[] counts = new long[2];
+        count(new FurnitureByFlood(), counts);
+        Check.holds("512 times " + counts[0] + " objects and arrays are too many", counts[0] * 512 < 600_000 / 2);
+        Check.holds("512 times " + counts[1] + " fields and elements are too many", counts[1] * 512 < 7_300_000 / 2);
+    }
+
+    private static void count(Object of, long[] counts) {
+        counts[0]++;
+        if (of.getClass().isArray()) {
+            int length = Array.getLength(of);
+            counts[1] += length;
+            for (int i = 0; i < length && !of.getClass().getComponentType().isPrimitive(); i++) {
+                count(Array.get(of, i), counts);
+            }
+            return;
+        }
+        for (Field f : of.getClass().getDeclaredFields()) {
+            if (!Modifier.isStatic(f.getModifiers())) {
+                counts[1]++;
+                if (!f.getType().isPrimitive()) {
+                    count(value(f, of), counts);
+                }
+            }
+        }
+    }
+
+    private static Object value(Field f, Object of) {
+        try {
+            f.setAccessible(true);
+            return f.get(of);
+        } catch (IllegalAccessException thrown) {
+            throw new IllegalStateException(thrown);
+        }
     }
 
     private static String found(String text, String pattern) {
